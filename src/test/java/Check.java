@@ -1,0 +1,28 @@
+/** Counts and prints the answers that are not the ones that are due. */
+final class Check {
+    private int asked = 0;
+    private int wrong = 0;
+
+    void due(String call, int got, int want) {
+        asked++;
+        if (got != want) {
+            wrong++;
+            System.out.println(call + " answered " + got + ", due is " + want);
+        }
+    }
+
+    void holds(String what, boolean holds) {
+        asked++;
+        if (!holds) {
+            wrong++;
+            System.out.println("does not hold: " + what);
+        }
+    }
+
+    void end() {
+        System.out.println(asked + " answers looked at, " + wrong + " not as due");
+        if (wrong != 0) {
+            System.exit(1);
+        }
+    }
+}
