@@ -19,7 +19,8 @@ public final class FaceTest {
     public static void main(String[] args) throws ReflectiveOperationException {
         Check check = new Check();
         Class<?> type = ArgSolver.class;
-        check.holds("public and final", Modifier.isPublic(type.getModifiers()) && Modifier.isFinal(type.getModifiers()));
+        check.holds("public", Modifier.isPublic(type.getModifiers()));
+        check.holds("final", Modifier.isFinal(type.getModifiers()));
         check.holds("no package", type.getPackageName().isEmpty());
         check.holds("no nested class", type.getDeclaredClasses().length == 0);
         constructors(check, type);
