@@ -74,18 +74,32 @@ public final class CallSentencesTest {
         int ask(ArgSolver x, int p, int q);
     }
 
+    /** Looks at all attacks and at who is in play, against what was made and not against another object. */
+    private static void dueState(Check check, String name, ArgSolver x, int n, int which) {
+        for (int c = 0; c < n; c++) {
+            int inPlay = Frames.inPlayIn(n, which) >> c & 1;
+            check.due(name + "in play " + c, x.range(1 << c) == -3 ? 0 : 1, inPlay);
+            for (int b = 0; b < n; b++) {
+                check.due(name + "attacks " + c + " " + b, x.attacks(c, b), Frames.attacksIn(n, which, c, b) ? 1 : 0);
+            }
+        }
+    }
+
     private static void sameAfter(Check check, String call, Call made) {
         for (int n : new int[] {2, 5, 8}) {
             int[] values = {Integer.MIN_VALUE, -1, 0, 1, 2, n - 1, n, 5, 6, (1 << n) - 1, 1 << n, Integer.MAX_VALUE};
             for (int which = 0; which < Frames.STATES.length; which++) {
-                ArgSolver x = Frames.state(n, which);
+                String name = n + " claims, " + Frames.STATES[which] + ": after " + call;
+                ArgSolver often = Frames.state(n, which);
                 for (int p : values) {
                     for (int q : values) {
-                        made.ask(x, p, q);
+                        made.ask(often, p, q);
+                        ArgSolver once = Frames.state(n, which);
+                        made.ask(once, p, q);
+                        dueState(check, name + "(" + p + ", " + q + "): ", once, n, which);
                     }
                 }
-                String name = n + " claims, " + Frames.STATES[which] + ": the same after " + call;
-                check.holds(name, Arrays.equals(seen(x), seen(Frames.state(n, which))));
+                check.holds(name + " often", Arrays.equals(seen(often), seen(Frames.state(n, which))));
             }
         }
     }

@@ -44,23 +44,45 @@ final class Frames {
     }
 
     static ArgSolver state(int n, int which) {
+        ArgSolver x = new ArgSolver(n);
+        for (int a = 0; a < n; a++) {
+            for (int b = 0; b < n; b++) {
+                if (attacksIn(n, which, a, b)) {
+                    x.attack(a, b, 1);
+                }
+            }
+        }
+        return without(x, full(n) - inPlayIn(n, which));
+    }
+
+    /** Whether a attacks b in a state, told without asking an object. */
+    static boolean attacksIn(int n, int which, int a, int b) {
         switch (which) {
             case 0:
-                return new ArgSolver(n);
-            case 1:
-                return chain(n);
+                return false;
             case 2:
-                return ring(n);
+                return b == (a + 1) % n;
             case 3:
-                return allAttackThemselves(n);
+                return a == b;
             case 4:
-                return allAttackAll(n);
-            case 5:
-                return without(chain(n), 1 << (n - 1));
             case 6:
-                return without(allAttackAll(n), 0b10101010 & full(n));
+                return true;
             default:
-                return without(chain(n), full(n));
+                return b == a + 1;
+        }
+    }
+
+    /** The claims in play in a state, told without asking an object. */
+    static int inPlayIn(int n, int which) {
+        switch (which) {
+            case 5:
+                return full(n) - (1 << (n - 1));
+            case 6:
+                return evens(n);
+            case 7:
+                return 0;
+            default:
+                return full(n);
         }
     }
 
@@ -75,36 +97,25 @@ final class Frames {
 
     /** 0 attacks 1, 1 attacks 2, and so on. */
     static ArgSolver chain(int n) {
-        ArgSolver x = new ArgSolver(n);
-        for (int c = 0; c + 1 < n; c++) {
-            x.attack(c, c + 1, 1);
-        }
-        return x;
+        return state(n, 1);
     }
 
     /** A chain whose last claim attacks the first. */
     static ArgSolver ring(int n) {
-        ArgSolver x = chain(n);
-        x.attack(n - 1, 0, 1);
-        return x;
+        return state(n, 2);
     }
 
     static ArgSolver allAttackThemselves(int n) {
-        ArgSolver x = new ArgSolver(n);
-        for (int c = 0; c < n; c++) {
-            x.attack(c, c, 1);
-        }
-        return x;
+        return state(n, 3);
     }
 
     static ArgSolver allAttackAll(int n) {
-        ArgSolver x = new ArgSolver(n);
-        for (int a = 0; a < n; a++) {
-            for (int b = 0; b < n; b++) {
-                x.attack(a, b, 1);
-            }
-        }
-        return x;
+        return state(n, 4);
+    }
+
+    /** 0 and 1 attack each other and 2, which attacks 3: each preferred set contains 3 and one of its defenders. */
+    static ArgSolver floating() {
+        return with(4, 0, 1, 1, 0, 0, 2, 1, 2, 2, 3);
     }
 
     /** An object of n claims with the attacks told as pairs. */

@@ -255,7 +255,7 @@ public final class QuestionSentencesTest {
             }
         }
         // 3 is in both preferred sets, 0 in one of them.
-        ArgSolver floating = Frames.with(4, 0, 1, 1, 0, 0, 2, 1, 2, 2, 3);
+        ArgSolver floating = Frames.floating();
         check.due("in both", floating.certain(ArgSolver.PREFERRED, 3), 1);
         check.due("in the first", floating.certain(ArgSolver.PREFERRED, 0), 0);
         check.due("in the last", floating.certain(ArgSolver.PREFERRED, 1), 0);
@@ -328,7 +328,7 @@ public final class QuestionSentencesTest {
                 check.due(name + "the last out of play", x.core(kind), withEmpty ? 0 : lastOut);
             }
         }
-        ArgSolver floating = Frames.with(4, 0, 1, 1, 0, 0, 2, 1, 2, 2, 3);
+        ArgSolver floating = Frames.floating();
         check.due("of two preferred sets", floating.core(ArgSolver.PREFERRED), 8);
         check.due("of two sets with nothing in common", Frames.ring(2).core(ArgSolver.PREFERRED), 0);
     }

@@ -9,13 +9,23 @@ final class Sentences {
     private int broken = 0;
 
     void test(String place, String sentence, Test test) {
-        Check check = new Check();
-        test.run(check);
         tested++;
-        if (!check.passed()) {
+        if (!holds(test)) {
             broken++;
             System.out.println("BROKEN: " + place + ": " + sentence);
         }
+    }
+
+    /** No call may throw: one that does breaks the sentence, and the other sentences are tested all the same. */
+    private static boolean holds(Test test) {
+        Check check = new Check();
+        try {
+            test.run(check);
+        } catch (RuntimeException thrown) {
+            thrown.printStackTrace(System.out);
+            return false;
+        }
+        return check.passed();
     }
 
     void end() {

@@ -207,7 +207,7 @@ public final class SetSentencesTest {
             check.due(n + " claims, beyond the grounded set", x.ideal(), full - (1 << (n - 1)));
         }
         // 3 is in every preferred set, but what defends it is not.
-        ArgSolver floating = Frames.with(4, 0, 1, 1, 0, 0, 2, 1, 2, 2, 3);
+        ArgSolver floating = Frames.floating();
         check.due("part of every preferred set", floating.core(ArgSolver.PREFERRED), 8);
         check.due("but not admissible", floating.ideal(), 0);
     }
@@ -219,7 +219,7 @@ public final class SetSentencesTest {
     }
 
     private static void idealContainsOthers(Check check) {
-        Frames.everySmallFramework((name, n, x) -> {
+        Frames.Use containsOthers = (name, n, x) -> {
             int ideal = x.ideal();
             int core = x.core(ArgSolver.PREFERRED);
             check.due(name + "ideal is admissible", x.is(ArgSolver.ADMISSIBLE, ideal), 1);
@@ -229,6 +229,10 @@ public final class SetSentencesTest {
                 int set = x.nth(ArgSolver.ADMISSIBLE, i);
                 check.holds(name + "ideal contains " + set, (set & ~core) != 0 || (set & ~ideal) == 0);
             }
-        });
+        };
+        Frames.everyState(containsOthers);
+        Frames.everySmallFramework(containsOthers);
+        // The one with the common part of all preferred sets not admissible itself.
+        containsOthers.on("floating: ", 4, Frames.floating());
     }
 }

@@ -97,6 +97,9 @@ public final class TermSentencesTest {
             for (int c = 0; c < n; c++) {
                 ArgSolver alone = Frames.without(new ArgSolver(n), Frames.full(n) - (1 << c));
                 check.due(n + " claims: only " + c + " in play", alone.grounded(), 1 << c);
+                int next = (c + 1) % n;
+                int both = (1 << c) + (1 << next);
+                check.due(n + " claims: " + c + " and the next", Frames.with(n, c, next).range(1 << c), both);
             }
         }
     }
