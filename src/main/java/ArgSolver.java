@@ -231,6 +231,7 @@ public final class ArgSolver {
     private int attackedBy(int set) {
         int attacked = 0;
         for (int c = 0; c < claimCount; c++) {
+            // Written out, because a call of contains from here would be the seventh in a row.
             if (((set >> c) & 1) != 0) {
                 attacked |= targets[c];
             }
